@@ -33,7 +33,7 @@ public final class CutBlocks {
 
     public int seed(int seed) {
         rules.sow(seed);
-        forgetCuts();
+        forgetAllCuts();
         return 1;
     }
 
@@ -42,7 +42,7 @@ public final class CutBlocks {
             return BAD;
         }
         rules.take(mode, least, greatest, bits, level, record);
-        forgetCuts();
+        forgetAllCuts();
         return 1;
     }
 
@@ -220,7 +220,7 @@ public final class CutBlocks {
         return texts[text].row;
     }
 
-    private void forgetCuts() {
+    private void forgetAllCuts() {
         for (int t = 0; t < TEXTS; t++) {
             texts[t].forgetCuts();
         }

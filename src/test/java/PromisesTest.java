@@ -617,9 +617,37 @@ public final class PromisesTest {
         due("keep", x.keep(0), 2);
         keptIs(x, 3, 5, 11, 7);
         due("told", x.told(1, 0), 2);
+        keepWordsOfOneDigest();
         keepNumbers();
         keepToTheLastBlock();
         keepToTheLastByte();
+    }
+
+    private static void giveWord(CutBlocks x, int text, String word) {
+        x.remove(text, 0, x.size(text));
+        for (char c : word.toCharArray()) {
+            x.add(text, c);
+        }
+    }
+
+    /** Words of one DIGEST of manner 0 are different blocks all the same. */
+    private static void keepWordsOfOneDigest() {
+        String[][] words = {{"declinate", "macallums"}, {"costarring", "liquid"}, {"zinke", "altarage"}};
+        for (String[] two : words) {
+            CutBlocks x = new CutBlocks();
+            x.rule(0, 20, 20, 9, 0, 1);
+            giveWord(x, 0, two[0]);
+            giveWord(x, 1, two[1]);
+            due("their digests differ by", x.digest(0, 0, 0) - x.digest(1, 0, 0), 0);
+            alikeIs(x, 0, 1, 0, 0, 0, 0);
+            x.keep(0);
+            due("uses", x.uses(1, 0), 0);
+            x.keep(1);
+            keptIs(x, 2, 2, two[0].length() + two[1].length(), 2);
+            due("pairs", x.kept(4), 1);
+            x.restore(1, 2);
+            alikeIs(x, 2, 1, 1, two[1].length(), 1, 1);
+        }
     }
 
     private static void drop() {
@@ -648,6 +676,26 @@ public final class PromisesTest {
         x.keep(3);
         due("a text stays", x.size(0), 7);
         keptIs(x, 1, 3, 5, 4);
+        dropMovesNothingElse();
+    }
+
+    private static void dropMovesNothingElse() {
+        CutBlocks x = new CutBlocks();
+        x.rule(0, 2, 2, 9, 0, 1);
+        give(x, 0, 9, 9, 8, 8, 7);
+        give(x, 1, 5, 5, 8, 8, 6, 6, 5, 5);
+        x.keep(0);
+        x.keep(1);
+        due("the first snapshot's own blocks", x.drop(0), 3);
+        due("restore", x.restore(1, 2), 8);
+        hasBytes("restored", x, 2, 5, 5, 8, 8, 6, 6, 5, 5);
+        due("uses", x.uses(1, 0), 2);
+        due("uses", x.uses(1, 1), 1);
+        due("uses", x.uses(0, 0), 0);
+        due("keep", x.keep(0), 0);
+        due("restore", x.restore(0, 3), 5);
+        hasBytes("restored", x, 3, 9, 9, 8, 8, 7);
+        keptIs(x, 2, 5, 9, 7);
     }
 
     private static void restore() {
