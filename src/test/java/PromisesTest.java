@@ -1,66 +1,5 @@
-import java.util.HashSet;
-import java.util.Set;
-
-/**
- * Each promise on its own: ordinary inputs, the edges that the document names, wrong inputs.
- *
- * Many cuts here are worked out by hand: a seed is chosen so that byte 0 has the number t in THE
- * TABLE, and the text has 0s alone. H with the n-th byte of a block is then (2^n - 1) t. With t = 1,
- * b are MARKED while n is up to 32 - b, and never again from n = 32 on; with t = -1, none is MARKED
- * up to n = 31, and up to 31 are from n = 32 on.
- */
-public final class PromisesTest {
-    private static final int BAD = -1;
-    private static final int FULL = -2;
-    private static final int[] WRONG_TEXTS = {-1, 4, Integer.MIN_VALUE, Integer.MAX_VALUE};
-    private static int wrong = 0;
-    private static int promise = 0;
-
-    private static void due(String what, long got, long want) {
-        if (got != want) {
-            wrong++;
-            System.out.println("promise " + promise + ", " + what + ": answered " + got + ", due is " + want);
-        }
-    }
-
-    /** The seed with which byte 0 has this number. */
-    private static int seedFor(int number) {
-        int x = number ^ (number >>> 16);
-        int inverse = 1;
-        for (int i = 0; i < 5; i++) {
-            inverse *= 2 - 1664525 * inverse;
-        }
-        return (x - 1013904223) * inverse;
-    }
-
-    /** An object whose text 0 has n 0s, and whose byte 0 has this number. */
-    private static CutBlocks zeros(int n, int number) {
-        CutBlocks x = new CutBlocks();
-        x.seed(seedFor(number));
-        for (int left = n; left > 0; left -= 400) {
-            x.fill(0, Math.min(left, 400), 1, 1);
-        }
-        return x;
-    }
-
-    private static int firstBlock(CutBlocks x, int mode, int least, int greatest, int bits, int level, int record) {
-        return x.rule(mode, least, greatest, bits, level, record) == 1 ? x.block(0, 0, 1) : -100;
-    }
-
-    private static void give(CutBlocks x, int text, int... bytes) {
-        x.remove(text, 0, x.size(text));
-        for (int b : bytes) {
-            x.add(text, b);
-        }
-    }
-
-    private static void hasBytes(String what, CutBlocks x, int text, int... bytes) {
-        due(what + ": size", x.size(text), bytes.length);
-        for (int i = 0; i < bytes.length; i++) {
-            due(what + ": byte " + i, x.byteAt(text, i), bytes[i]);
-        }
-    }
-
+/** Each promise on its own: ordinary inputs, the edges that the document names, wrong inputs. */
+public final class PromisesTest extends Checks {
     private static void newObject() {
         CutBlocks x = new CutBlocks();
         for (int t = 0; t < 4; t++) {
@@ -207,15 +146,6 @@ public final class PromisesTest {
         ruleSecondMarks();
         ruleWindow();
         ruleRefused();
-    }
-
-    private static CutBlocks full() {
-        CutBlocks x = new CutBlocks();
-        x.fill(1, 400, 1, 256);
-        x.fill(1, 400, 2, 256);
-        x.fill(1, 400, 3, 256);
-        x.fill(1, 300, 4, 256);
-        return x;
     }
 
     private static void add() {
@@ -466,12 +396,6 @@ public final class PromisesTest {
         due("two bytes, mode 3", x.hash(2, 1), (Integer.rotateLeft(table[17], 1) ^ table[200]) & 0xFFFFFFFFL);
     }
 
-    private static void alikeIs(CutBlocks x, int text, int other, int... want) {
-        for (int what = 0; what < 4; what++) {
-            due("alike(" + text + ", " + other + ", " + what + ")", x.alike(text, other, what), want[what]);
-        }
-    }
-
     private static void alike() {
         CutBlocks x = new CutBlocks();
         x.rule(0, 2, 2, 9, 0, 1);
@@ -500,13 +424,6 @@ public final class PromisesTest {
         due("what", x.alike(0, 1, -1), BAD);
     }
 
-    private static void keptIs(CutBlocks x, int snapshots, int blocks, int bytes, int uses) {
-        due("kept(0)", x.kept(0), snapshots);
-        due("kept(1)", x.kept(1), blocks);
-        due("kept(2)", x.kept(2), bytes);
-        due("kept(3)", x.kept(3), uses);
-    }
-
     private static void keepNumbers() {
         CutBlocks x = new CutBlocks();
         for (int s = 0; s < 10; s++) {
@@ -524,38 +441,10 @@ public final class PromisesTest {
         keptIs(x, 10, 0, 0, 0);
     }
 
-    private static int[] filled(int n, int seed) {
-        int[] bytes = new int[n];
-        int x = seed;
-        for (int i = 0; i < n; i++) {
-            x = x * 1103515245 + 12345;
-            bytes[i] = (x >>> 16) % 256;
-        }
-        return bytes;
-    }
-
-    private static int differentPairs(int seed, int first, int second) {
-        Set<Integer> pairs = new HashSet<>();
-        int[] one = filled(first, seed);
-        int[] two = filled(second, seed + 1);
-        for (int i = 0; i < first; i += 2) {
-            pairs.add(one[i] * 256 + one[i + 1]);
-        }
-        for (int i = 0; i < second; i += 2) {
-            pairs.add(two[i] * 256 + two[i + 1]);
-        }
-        return pairs.size();
-    }
-
     private static void keepToTheLastBlock() {
-        int seed = 0;
-        while (differentPairs(seed, 400, 200) < 300) {
-            seed++;
-        }
         CutBlocks x = new CutBlocks();
         x.rule(0, 2, 2, 9, 0, 1);
-        x.fill(0, 400, seed, 256);
-        x.fill(0, 200, seed + 1, 256);
+        giveDifferentPairs(x, 0, 300);
         due("300 blocks", x.keep(0), 0);
         keptIs(x, 1, 300, 600, 300);
         x.copy(1, 0);
@@ -815,7 +704,8 @@ public final class PromisesTest {
     }
 
     public static void main(String[] args) {
-        for (promise = 1; promise <= 21; promise++) {
+        for (int promise = 1; promise <= 21; promise++) {
+            at("promise " + promise);
             switch (promise) {
                 case 1: newObject(); break;
                 case 2: seed(); break;
@@ -840,9 +730,6 @@ public final class PromisesTest {
                 default: kept(); break;
             }
         }
-        System.out.println(wrong == 0 ? "all promises hold" : wrong + " answers are not as due");
-        if (wrong != 0) {
-            System.exit(1);
-        }
+        end("all promises hold");
     }
 }
